@@ -257,7 +257,7 @@ public final class DrawBureau {
             int compared = (1 << (teams - 2)) - 1;
             int count = 0;
             for (int slot = 0; slot < teams; slot++) {
-                int changes = homes[slot] ^ homes[slot] >> 1;
+                int changes = homes[slot] ^ (homes[slot] >> 1);
                 count += Integer.bitCount(~changes & compared);
             }
             return count;
@@ -295,7 +295,7 @@ public final class DrawBureau {
             if (twinsLeft <= 0) {
                 return 0;
             }
-            if (slot >= teams) {
+            if (slot + 2 * twinsLeft > teams) {
                 return TOO_MANY;
             }
             int least = leastFrom(slot + 1, used, twinsLeft);
@@ -395,7 +395,7 @@ public final class DrawBureau {
             if (ahead < teams / 2) {
                 return (ahead & 1) == 1;
             }
-            return (teams - 1 - ahead & 1) == 0;
+            return ((teams - 1 - ahead) & 1) == 0;
         }
 
         /** The rest by n - 1 of what is off by n - 1 at most. */
@@ -602,7 +602,7 @@ public final class DrawBureau {
             int apart = points[player] - points[rival];
             int need = needs[player];
             int other = needs[rival];
-            boolean alike = need > 0 && other > 0 || need < 0 && other < 0;
+            boolean alike = (need > 0 && other > 0) || (need < 0 && other < 0);
             int strain = alike ? Math.min(Math.abs(need), Math.abs(other)) : 0;
             return Price.of(apart * apart, strain, FREE - Math.abs(player - rival));
         }
@@ -622,7 +622,7 @@ public final class DrawBureau {
             if (needs[player] != needs[rival]) {
                 return needs[player] < needs[rival];
             }
-            return player < rival == needs[player] <= 0;
+            return (player < rival) == (needs[player] <= 0);
         }
 
         /** Reckons points and needs anew: a result may have been corrected. */
@@ -718,7 +718,7 @@ public final class DrawBureau {
             rank = rank << MEASURE_BITS | sumOf(player);
             rank = rank << MEASURE_BITS | cutOf(player);
             rank = rank << MEASURE_BITS | winsOf(player);
-            return rank << MEASURE_BITS | MOST - player;
+            return rank << MEASURE_BITS | (MOST - player);
         }
 
         private int playersBefore(int player) {
@@ -948,11 +948,11 @@ public final class DrawBureau {
         }
 
         private int gamesOf(int round) {
-            return 1 << rounds - 1 - round;
+            return 1 << (rounds - 1 - round);
         }
 
         private int cellOf(int round, int i) {
-            return (1 << rounds) - (1 << rounds - round) + i;
+            return (1 << rounds) - (1 << (rounds - round)) + i;
         }
     }
 }
