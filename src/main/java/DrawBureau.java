@@ -391,11 +391,8 @@ public final class DrawBureau {
             if (slot == round) {
                 return roundIsEven;
             }
-            int ahead = wrapped(slot - round);
-            if (ahead < teams / 2) {
-                return (ahead & 1) == 1;
-            }
-            return ((teams - 1 - ahead) & 1) == 0;
+            // Slot r - k is n - 1 - k ahead of r, which is odd just when k is even.
+            return (wrapped(slot - round) & 1) == 1;
         }
 
         /** The rest by n - 1 of what is off by n - 1 at most. */

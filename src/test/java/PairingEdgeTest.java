@@ -524,6 +524,17 @@ public final class PairingEdgeTest extends Edges {
         dueCost(x, 10, 2, 28);
     }
 
+    @Edge(promise = 10, says = "the three numbers of its cost: each for itself, odd ones")
+    static void costOfOddNumbers() {
+        // Points 3 4 1 1 2 1, needs -1 -1 5 1 -3 -3: 0-1 makes 1 1 15, 2-4 makes 1 0 14, 3 free makes 1 0 3.
+        DrawBureau x = played(6, "121");
+        x.out(5);
+        playRound(x, 1, "00");
+        x.pair();
+        dueOpponents(x, 2, 1, 0, 4, FREE, 2, NONE);
+        dueCost(x, 3, 1, 32);
+    }
+
     @Edge(promise = 10, says = "both above 0 or both below, else 0: one need is 0")
     static void costOfANeedOfNothing() {
         // Points 2 2 0, needs 3 0 -3: 0-1 and 2 free.

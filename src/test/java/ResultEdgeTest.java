@@ -547,6 +547,15 @@ public final class ResultEdgeTest extends Edges {
         due("sum of 2", x.score(2, 2), 3);
     }
 
+    @Edge(promise = 16, says = "CUT: 0 with fewer than three such games: none, one")
+    static void scoreOfCutWithOneGame() {
+        DrawBureau x = playersOf(2);
+        due("cut of 1 without a game", x.score(1, 3), 0);
+        playRound(x, 0, "2");
+        due("sum of 1", x.score(1, 2), 2);
+        due("cut of 1", x.score(1, 3), 0);
+    }
+
     @Edge(promise = 16, says = "CUT: 0 with fewer than three such games: two")
     static void scoreOfCutWithTwoGames() {
         DrawBureau x = played(4, "22", "22");

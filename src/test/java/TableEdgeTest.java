@@ -101,6 +101,19 @@ public final class TableEdgeTest extends Edges {
         refused("wish(15, 0), turned", x.wish(15, 0));
     }
 
+    @Edge(promise = 2, says = "or is in a wish already: not just in the latest one")
+    static void wishOfATeamOfAnEarlierWish() {
+        DrawBureau x = new DrawBureau();
+        x.wish(3, 8);
+        x.wish(0, 15);
+        x.wish(1, 2);
+        refused("wish(3, 4)", x.wish(3, 4));
+        refused("wish(4, 8)", x.wish(4, 8));
+        refused("wish(15, 4)", x.wish(15, 4));
+        refused("wish(4, 0)", x.wish(4, 0));
+        taken("wish(4, 5)", x.wish(4, 5));
+    }
+
     @Edge(promise = 2, says = "or is in a wish already: not in twins")
     static void wishOfTwins() {
         DrawBureau x = new DrawBureau();
@@ -197,6 +210,19 @@ public final class TableEdgeTest extends Edges {
         refused("twins(4, 8)", x.twins(4, 8));
         refused("twins(3, 8) again", x.twins(3, 8));
         refused("twins(8, 3), turned", x.twins(8, 3));
+    }
+
+    @Edge(promise = 3, says = "refused, likewise (of twins): not just of the latest ones")
+    static void twinsOfATeamOfEarlierTwins() {
+        DrawBureau x = new DrawBureau();
+        x.twins(3, 8);
+        x.twins(0, 15);
+        x.twins(1, 2);
+        refused("twins(3, 4)", x.twins(3, 4));
+        refused("twins(4, 8)", x.twins(4, 8));
+        refused("twins(15, 4)", x.twins(15, 4));
+        refused("twins(4, 0)", x.twins(4, 0));
+        taken("twins(4, 5)", x.twins(4, 5));
     }
 
     @Edge(promise = 3, says = "likewise (of twins): not in a wish")
@@ -460,6 +486,28 @@ public final class TableEdgeTest extends Edges {
         }
         x.table(16, 1);
         dueRound(x, 0, 8, "15-14 13-12 10-11 9-8 6-7 5-4 2-3 1-0");
+    }
+
+    @Edge(promise = 5, says = "the wishes get the games of round 0: full ones, rising")
+    static void largestTableWithRisingWishes() {
+        DrawBureau x = new DrawBureau();
+        for (int team = 0; team < 16; team += 2) {
+            x.wish(team, team + 1);
+        }
+        x.table(16, 1);
+        dueRound(x, 0, 8, "0-1 2-3 5-4 6-7 9-8 10-11 13-12 14-15");
+    }
+
+    @Edge(promise = 5, says = "the wishes get the games of round 0: one game is left")
+    static void tableWithOneGameLeft() {
+        DrawBureau x = new DrawBureau();
+        x.wish(5, 2);
+        x.wish(0, 1);
+        x.table(6, 1);
+        // Slots: 5 0 3 4 1 2.
+        dueRound(x, 0, 3, "5-2 0-1 4-3");
+        dueRound(x, 1, 3, "3-5 2-0 1-4");
+        dueRound(x, 4, 3, "5-4 3-0 1-2");
     }
 
     @Edge(promise = 5, says = "the team told first in the lesser slot")

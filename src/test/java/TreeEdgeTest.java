@@ -26,12 +26,16 @@ public final class TreeEdgeTest extends Edges {
         refused("win(" + round + ", " + i + ", true)", x.win(round, i, true));
     }
 
-    /** A tree of a power of two in which the first side won each game. */
     private static DrawBureau wonByFirstSides(int rounds) {
+        return wonBySides(rounds, false);
+    }
+
+    /** A tree of a power of two in which the first side, or the second, won each game. */
+    private static DrawBureau wonBySides(int rounds, boolean second) {
         DrawBureau x = treeOf(1 << rounds);
         for (int round = 0; round < rounds; round++) {
             for (int i = 0; i < 1 << (rounds - 1 - round); i++) {
-                x.win(round, i, false);
+                x.win(round, i, second);
             }
         }
         return x;
@@ -398,6 +402,38 @@ public final class TreeEdgeTest extends Edges {
         dueNode(x, 1, 0, 0, 2, 2);
         won(x, 0, 1, false);
         dueNode(x, 1, 0, 0, 1, NONE);
+    }
+
+    @Edge(promise = 19, says = "what was won behind it by who lost now is no more: from the last game on")
+    static void winThatTurnsTheLastGame() {
+        DrawBureau x = wonBySides(6, true);
+        dueNode(x, 0, 31, 21, 42, 42);
+        dueNode(x, 5, 0, 43, 42, 42);
+        won(x, 0, 31, false);
+        dueNode(x, 0, 31, 21, 42, 21);
+        dueNode(x, 1, 15, 53, 21, NONE);
+        dueNode(x, 2, 7, 37, NONE, NONE);
+        dueNode(x, 3, 3, 45, NONE, NONE);
+        dueNode(x, 4, 1, 41, NONE, NONE);
+        dueNode(x, 5, 0, 43, NONE, NONE);
+        dueNode(x, 0, 30, 10, 53, 53);
+    }
+
+    @Edge(promise = 19, says = "what was won behind it by who lost now is no more: from a game between")
+    static void winThatTurnsAGameBetween() {
+        DrawBureau x = wonByFirstSides(4);
+        // 2 won games 6, 3 and 1 of rounds 0 to 2 when it beats 1.
+        won(x, 2, 1, true);
+        won(x, 3, 0, true);
+        dueNode(x, 3, 0, 0, 2, 2);
+        won(x, 0, 6, true);
+        dueNode(x, 0, 6, 2, 13, 13);
+        dueNode(x, 1, 3, 13, 5, NONE);
+        dueNode(x, 2, 1, 1, NONE, NONE);
+        dueNode(x, 3, 0, 0, NONE, NONE);
+        dueNode(x, 0, 7, 5, 10, 5);
+        dueNode(x, 1, 2, 1, 6, 1);
+        dueNode(x, 2, 0, 0, 3, 0);
     }
 
     @Edge(promise = 19, says = "behind it: what it had won before that game stays")
